@@ -982,14 +982,6 @@ public final class TakenBack {
                 items[n] = other.items[n];
             }
         }
-
-        int endOfLine(int from) {
-            int n = from;
-            while (n < length && items[n] != -';') {
-                n++;
-            }
-            return n;
-        }
     }
 
     /** The tape, and the reading of it as a text. */
@@ -1205,16 +1197,18 @@ public final class TakenBack {
         }
 
         private int workOut(Text text) {
+            boolean passing = false;
             height = 0;
             for (int n = 0; n < text.length; n++) {
                 int item = text.items[n];
-                if (item == -';') {
+                if (passing) {
+                    passing = item != -';';
+                } else if (item == -';') {
                     return pull();
-                }
-                if (item != -'?') {
+                } else if (item == -'?') {
+                    passing = pull() == 0;
+                } else {
                     step(item);
-                } else if (pull() == 0) {
-                    n = text.endOfLine(n);
                 }
             }
             return 0;

@@ -51,6 +51,7 @@ public final class ActsTest {
         }
         Check.due("35: x wraps", x.act(6, 0, 2147483647), -2147483648 + 6);
         Check.due("35: x wraps twice", x.act(2, 1, 1073741824), -2147483648 + 6);
+        Check.due("35: tells of a RULED with 4", x.act(3, 3, 4), 12 ^ 5);
         x.restore(1);
         Check.due("35: as a HELD one", x.act(6, 2, 7), 1 - 8);
         Check.due("35: as a HELD one stands", x.act(6, 0, 7), 13);

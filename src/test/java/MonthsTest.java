@@ -8,6 +8,7 @@ public final class MonthsTest {
         months();
         hearing();
         hearingByDraws();
+        hearingAtTheEdge();
         hearingInOrder();
         holdingTheMore();
         feed();
@@ -121,6 +122,23 @@ public final class MonthsTest {
                 for (int n = 1; n < 6; n++) {
                     Check.due("5: " + n + " by seed " + seed, x.ofStone(n, 6), heard[n]);
                 }
+            }
+        }
+    }
+
+    /** A draw that is as great as the odds is not below them. */
+    private static void hearingAtTheEdge() {
+        for (int more = 0; more < 2; more++) {
+            for (int hold = 0; hold < 2; hold++) {
+                TakenBack x = new TakenBack();
+                x.stone(1, 1, 10);
+                x.stone(5, 1, 0);
+                x.line(1, 0, 10);
+                x.take(0, 1, 0);
+                text(x, 0, "" + (draw(0, 1, 1, 0) + more));
+                text(x, 1, "" + (draw(0, 1, 1, 1) + hold));
+                Check.due("18: at the edge of HEARS", x.months(1), more);
+                Check.due("5: at the edge of BACK", x.ofStone(1, 6), more == 0 ? 0 : hold == 0 ? 1 : 2);
             }
         }
     }
@@ -542,6 +560,22 @@ public final class MonthsTest {
         Check.due("27: LAND -1", x.land(-1), -1);
         x.take(2, 1, 0);
         Check.due("27: what says NO at any rate", x.land(3), 0);
+        TakenBack y = new TakenBack();
+        y.stone(1, 10, 10);
+        y.stone(1, 10, 10);
+        y.stone(3, 10, 799);
+        y.stone(3, 10, 700);
+        y.stone(3, 10, 1);
+        for (int n = 2; n < 5; n++) {
+            y.line(n, 0, 50);
+            y.line(n, 1, 50);
+        }
+        y.take(0, 2, 0);
+        y.take(1, 0, 9);
+        y.months(1);
+        Check.due("27: the last LAND, by both from month 0 on", y.land(7), 99);
+        Check.due("27: the first LAND", y.land(0), 1);
+        Check.due("27: none between", y.land(6), 0);
     }
 
     private static void landsByTheMonth() {

@@ -12,6 +12,7 @@ public final class NamesTest {
         span();
         undoAndRedo();
         fortyAreKept();
+        fortyOfAllSorts();
         Check.end();
     }
 
@@ -219,5 +220,33 @@ public final class NamesTest {
         x.change(0, 0, 50);
         Check.due("43: forty still", x.count(5), 40);
         Check.due("34: none then", x.redo(), -5);
+    }
+
+    private static void fortyOfAllSorts() {
+        TakenBack x = new TakenBack();
+        x.stone(1, 1, 1);
+        x.stone(2, 1, 1);
+        x.stone(2, 1, 1);
+        x.line(1, 0, 1);
+        x.line(2, 0, 1);
+        x.copy(0, 1);
+        x.copy(0, 1);
+        x.months(1);
+        for (int n = 0; n < 15; n++) {
+            x.change(0, 0, 2 + n);
+            x.change(1, 1, 1 + n % 2);
+            x.mark(1, (n + 1) % 2);
+        }
+        // five are forgotten: of WEIGHTS two, of SENSES two, of MARKS one
+        for (int n = 0; n < 40; n++) {
+            Check.due("33: all sorts", x.undo(), 39 - n);
+        }
+        Check.due("33: none", x.undo(), -5);
+        Check.due("8: WEIGHT", x.ofLine(0, 2), 3);
+        Check.due("8: SENSE", x.ofLine(1, 3), 2);
+        Check.due("8: of the other line", x.ofLine(1, 2), 1);
+        Check.due("8: of the first line", x.ofLine(0, 3), 0);
+        Check.due("24: MARK", x.mark(1, 1), 1);
+        Check.due("24: of the other copy", x.mark(0, 0), -1);
     }
 }

@@ -110,6 +110,16 @@ public final class TakenTest {
         Check.due("13: then 2, not 1", x.falls(0, 1), 2);
         x.take(0, 0, 5);
         Check.due("13: a SLIP falls still", x.falls(0, -1), 3);
+        TakenBack y = new TakenBack();
+        for (int n = 0; n < 63; n++) {
+            y.stone(1, 1, 1);
+        }
+        y.stone(3, 1, 0);
+        y.line(63, 62, 99);
+        Check.due("13: up to the last stone", y.falls(62, 1), 63);
+        Check.due("14: up to the last stone", y.turned(62, 0), 63);
+        Check.due("16: the last FIRST that it can be", y.hung(63), 1L << 62);
+        Check.due("13: with the last stone", y.falls(63, 0), 63);
     }
 
     private static void turned() {
