@@ -88,7 +88,7 @@ public final class AgreementTest {
             pick[k] = 4;
             int kind = wrong() ? from(-1, 7) : pick[below(pick.length)];
             int a = kind == 5 ? from(1, 9) : oneIn(3) ? from(-999, 999) : from(-20, 20);
-            int b = kind == 1 ? oneIn(3) ? from(1, 12) : from(1, 999) : from(0, 799);
+            int b = kind == 1 ? oneIn(3) ? from(1, 12) : from(1, 999) : oneIn(3) ? from(0, 799) : 100 * below(2) + below(100);
             if (wrong()) a = from(-1001, 1001);
             if (wrong()) b = from(-1, 1001);
             same("stone(" + kind + ", " + a + ", " + b + ")", x.stone(kind, a, b), m.stone(kind, a, b));
@@ -96,11 +96,18 @@ public final class AgreementTest {
 
         void line() {
             int s = stoneNumber(), on = oneIn(2) ? stoneNumber() : Math.max(0, s - 1 - below(6));
-            for (int k = 0; k < 5 && m.ofStone(s, 0) == 1; k++) s = stoneNumber();
-            for (int k = 0; k < 5 && on >= s; k++) on = stoneNumber();
+            for (int k = 0; k < 9 && (s == 0 || m.ofStone(s, 0) == 1); k++) s = stoneNumber();
+            for (int k = 0; k < 9 && (on >= s || tied(s, on) && !wrong()); k++) on = stoneNumber();
             int sw = 100 * (oneIn(3) ? below(3) : 0) + (oneIn(3) ? from(1, 20) : from(30, 99));
             if (wrong()) sw = from(-120, 320);
             same("line(" + s + ", " + on + ", " + sw + ")", x.line(s, on, sw), m.line(s, on, sw));
+        }
+
+        private boolean tied(int s, int on) {
+            for (int l = 0; l < m.count(1); l++) {
+                if (m.ofLine(l, 0) == s && m.ofLine(l, 1) == on) return true;
+            }
+            return false;
         }
 
         void citings() {
@@ -251,7 +258,7 @@ public final class AgreementTest {
                     same("lacks(" + i + ")", x.lacks(i), m.lacks(i));
                 }
                 default -> {
-                    int l = wrong() ? from(-1, 9) : below(8);
+                    int l = wrong() ? from(-1, 9) : below(oneIn(3) ? 8 : 2);
                     same("land(" + l + ")", x.land(l), m.land(l));
                 }
             }
@@ -374,6 +381,7 @@ public final class AgreementTest {
             if (oneIn(6)) lines = 230;
             for (int k = 0; k < stones; k++) stone();
             for (int k = 0; k < lines; k++) line();
+            for (int k = below(6); k > 0; k--) take();
             for (int tries = 0; calls.size() < CALLS && tries < 20 * CALLS; tries++) any();
         }
     }
