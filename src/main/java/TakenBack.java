@@ -302,10 +302,7 @@ public final class TakenBack {
             return VOID;
         }
         int was = copies.marks[copy];
-        int becomes = is == 1 ? pile.now : -1;
-        if (becomes != was) {
-            changes.make(MARK, copy, was, becomes);
-        }
+        changes.make(MARK, copy, was, is == 1 ? pile.now : -1);
         return was;
     }
 
@@ -1309,7 +1306,11 @@ public final class TakenBack {
             this.copies = copies;
         }
 
+        /** What becomes no other one is no CHANGE: nothing could be UNDONE, and what may be DONE AGAIN stays. */
         void make(int what, int of, int was, int becomes) {
+            if (becomes == was) {
+                return;
+            }
             if (done >= MOST) {
                 forgetOldest();
             }

@@ -260,7 +260,8 @@ public final class ActsTest {
         x.feed(4, 0);
         x.feed(1, 0);
         x.change(0, 0, 1);
-        x.change(0, 0, 1);
+        x.change(0, 0, 2);
+        x.change(0, 0, 2);
         x.act(3, 3, 1);
         int[] due = {7, 4, 3, 9, 5, 2, 7};
         for (int what = 0; what < 7; what++) {

@@ -138,6 +138,7 @@ public final class AgreementTest {
 
         void change() {
             int l = lineNumber(), w = wrong() ? from(-1, 2) : below(2), v = w == 0 ? from(1, 99) : below(3);
+            if (w == 0 && oneIn(4)) v = m.ofLine(l, 2);
             if (wrong()) v = from(-1, 101);
             same("change(" + l + ", " + w + ", " + v + ")", x.change(l, w, v), m.change(l, w, v));
         }

@@ -276,12 +276,12 @@ final class Model {
         L l = lines.get(line);
         if (what == 0 && v >= 1 && v <= 99) {
             int was = l.weight;
-            make(new Ch(() -> l.weight = was, () -> l.weight = v));
+            if (was != v) make(new Ch(() -> l.weight = was, () -> l.weight = v));
             return was;
         }
         if (what == 1 && v >= 0 && v <= 2) {
             int was = l.sense;
-            make(new Ch(() -> l.sense = was, () -> l.sense = v));
+            if (was != v) make(new Ch(() -> l.sense = was, () -> l.sense = v));
             return was;
         }
         return BAD;

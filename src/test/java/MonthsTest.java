@@ -181,12 +181,34 @@ public final class MonthsTest {
         Check.due("8: of what is not TAKEN as it was", x.ofLine(1, 2), 20);
         Check.due("8: no line is DROPPED", x.ofLine(0, 4), 0);
         Check.due("43: no CHANGE", x.count(5), 1);
+        Check.due("9: 99 is there already", x.change(0, 0, 99), 99);
+        Check.due("43: so no CHANGE either", x.count(5), 1);
         Check.due("5: COUNTS", x.ofStone(2, 2), 990 + 400);
         Check.due("33: put back as a CHANGE had it", x.undo(), 0);
         Check.due("8: WEIGHT then", x.ofLine(0, 2), 10);
         Check.due("34: done again", x.redo(), 0);
         Check.due("8: WEIGHT then", x.ofLine(0, 2), 20);
         Check.due("18: it hears no more", x.months(24), 0);
+        holdingTheMoreThanTold();
+    }
+
+    /** What was told last is another WEIGHT than the 99 that came: told again, it is a CHANGE. */
+    private static void holdingTheMoreThanTold() {
+        TakenBack x = new TakenBack();
+        x.stone(1, 1, 100);
+        x.stone(5, 3, 0);
+        x.line(1, 0, 10);
+        x.take(0, 2, 0);
+        text(x, 0, "1000");
+        text(x, 1, "1000");
+        x.change(0, 0, 20);
+        Check.due("18: it hears", x.months(1), 1);
+        Check.due("9: another one than 99", x.change(0, 0, 20), 99);
+        Check.due("43: a CHANGE", x.count(5), 2);
+        Check.due("33: undone", x.undo(), 1);
+        Check.due("8: WEIGHT as the CHANGE had it", x.ofLine(0, 2), 99);
+        Check.due("33: undone", x.undo(), 0);
+        Check.due("8: WEIGHT as the first CHANGE had it", x.ofLine(0, 2), 10);
     }
 
     private static void feed() {

@@ -11,6 +11,8 @@ public final class NamesTest {
         fair();
         span();
         undoAndRedo();
+        whatChangesNothing();
+        whatChangesNothingOfForty();
         fortyAreKept();
         fortyOfAllSorts();
         Check.end();
@@ -195,6 +197,51 @@ public final class NamesTest {
         x.undo();
         Check.due("34: the MARK of 7", x.redo(), 0);
         Check.due("24: since 7", x.mark(0, 1), 7);
+    }
+
+    private static void whatChangesNothing() {
+        TakenBack x = new TakenBack();
+        x.stone(1, 1, 1);
+        x.stone(2, 1, 1);
+        x.line(1, 0, 110);
+        Check.due("9: the WEIGHT that is there", x.change(0, 0, 10), 10);
+        Check.due("9: the SENSE that is there", x.change(0, 1, 1), 1);
+        Check.due("43: no CHANGE", x.count(5), 0);
+        Check.due("33: none", x.undo(), -5);
+        x.change(0, 0, 20);
+        x.change(0, 1, 2);
+        x.undo();
+        x.undo();
+        Check.due("9: the WEIGHT put back", x.change(0, 0, 10), 10);
+        Check.due("9: the SENSE put back", x.change(0, 1, 1), 1);
+        Check.due("34: no other came behind", x.redo(), 1);
+        Check.due("9: the WEIGHT done again", x.change(0, 0, 20), 20);
+        Check.due("34: nor then", x.redo(), 0);
+        Check.due("9: the SENSE done again", x.change(0, 1, 2), 2);
+        Check.due("43: two CHANGES", x.count(5), 2);
+        Check.due("33: the SENSE", x.undo(), 1);
+        Check.due("8: SENSE", x.ofLine(0, 3), 1);
+        Check.due("9: another SENSE", x.change(0, 1, 0), 1);
+        Check.due("34: another one came behind", x.redo(), -5);
+        Check.due("43: two CHANGES", x.count(5), 2);
+    }
+
+    private static void whatChangesNothingOfForty() {
+        TakenBack x = new TakenBack();
+        x.stone(1, 1, 1);
+        x.stone(2, 1, 1);
+        x.line(1, 0, 99);
+        for (int n = 1; n <= 40; n++) {
+            x.change(0, 0, n);
+            x.change(0, 0, n);
+            x.change(0, 1, 0);
+            Check.due("43: that may be UNDONE", x.count(5), n);
+        }
+        for (int n = 39; n >= 0; n--) {
+            Check.due("33: all forty are kept", x.undo(), n);
+        }
+        Check.due("8: WEIGHT", x.ofLine(0, 2), 99);
+        Check.due("33: none", x.undo(), -5);
     }
 
     private static void fortyAreKept() {

@@ -356,5 +356,8 @@ public final class StonesTest {
         Check.due("9: changes that may be UNDONE", x.count(5), 4);
         Check.due("8: WEIGHT then", x.ofLine(0, 2), 1);
         Check.due("8: SENSE then", x.ofLine(0, 3), 0);
+        Check.due("9: the WEIGHT that is there", x.change(0, 0, 1), 1);
+        Check.due("9: the SENSE that is there", x.change(0, 1, 0), 0);
+        Check.due("9: these are no CHANGES", x.count(5), 4);
     }
 }
