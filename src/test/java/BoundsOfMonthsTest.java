@@ -126,6 +126,8 @@ public final class BoundsOfMonthsTest {
         y.due("ofStone(1, 6)", 1).due("ofStone(63, 6)", 1);
         Told z = heads("18", 63).text(0, "m=25?1000;0", 1).due("months(24)", 0).due("ofStone(63, 6)", 0).due("months(1)", 63);
         z.due("months(1)", 0);
+        Told w = heads("18", 3).tell("change(0, 0, 1); change(1, 0, 2); change(2, 0, 25)").text(0, "m=w?1000;0", 1);
+        w.due("months(24)", 2).due("ofStone(3, 6)", 0).due("months(24)", 1).due("ofStone(3, 6)", 1);
         heads("18", 2).tell("restore(0)").text(0, "1000", 1).due("months(24)", 0).due("ofStone(1, 6)", 0);
     }
 

@@ -22,6 +22,7 @@ public final class BoundsOfNamesTest {
         refusedOnesAreNoOthers();
         sameOnesAreNoOthers();
         fortyAreKept();
+        fortyOfOthersAreKept();
         fortyUndoneAndDoneAgain();
         Check.end();
     }
@@ -149,7 +150,7 @@ public final class BoundsOfNamesTest {
 
     /** "FAIR of a NAME. BAD." */
     private static void fairIsBad() {
-        Told x = new Told("31").plain(0, 1).tell("name(0, 0, 1); name(0, 19, 1); take(0, 1, 0)");
+        Told x = new Told("31").plain(0, 2).tell("name(0, 0, 1); name(0, 19, 1); take(0, 1, 0); take(1, 1, 0)");
         x.refused("fair(-1)", -1).refused("fair(20)", -1).due("fair(0)", 500).due("fair(19)", 500).due("fair(18)", 0);
     }
 
@@ -269,6 +270,25 @@ public final class BoundsOfNamesTest {
             }
             x.refused("redo()", Told.STATE).due("ofLine(0, 2)", many).due("count(5)", back);
         }
+    }
+
+    /** The oldest that are forgotten are of another LINE, SENSE or COPY than those that move up. */
+    private static void fortyOfOthersAreKept() {
+        Told x = new Told("33").plain(0, 4).tell("line(1, 0, 50); line(2, 0, 50); line(3, 0, 50); copy(0, 1); copy(0, 1); take(0, 1, 0)");
+        x.tell("change(0, 0, 60); change(0, 1, 1); mark(0, 1)");
+        for (int n = 1; n <= 19; n++) {
+            x.tell("change(1, 0, " + n + "); change(2, 1, " + (1 + n % 2) + ")");
+        }
+        x.due("count(5)", 40).tell("mark(1, 1); change(2, 0, 77)").due("count(5)", 40);
+        for (int n = 39; n >= 0; n--) {
+            x.due("undo()", n);
+        }
+        x.refused("undo()", Told.STATE);
+        int[][] due = {{60, 1}, {50, 0}, {50, 0}};
+        for (int l = 0; l < 3; l++) {
+            x.due("ofLine(" + l + ", 2)", due[l][0]).due("ofLine(" + l + ", 3)", due[l][1]);
+        }
+        x.due("lacks(-1)", 1).due("lacks(0)", 1);
     }
 
     /** Of forty some are UNDONE, others come behind, and it is forty at most again; of all sorts. */

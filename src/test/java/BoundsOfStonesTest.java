@@ -259,7 +259,8 @@ public final class BoundsOfStonesTest {
         x.refused("line(2, 0, 90)", -1).refused("line(2, 0, 1)", -1).due("count(1)", 3);
         x.bytes(0, 0, 50, 0).due("citings(2, 0, 0, 1)", 0);
         x.due("ofStone(0, 7)", 0).due("ofStone(0, 8)", 0).due("ofStone(1, 7)", 2).due("ofStone(1, 8)", 2);
-        x.due("ofStone(2, 2)", 100).due("worth(2)", -20000).due("with(0, 2, 2)", 100).due("falls(0, -1)", 1);
+        x.due("ofStone(0, 2)", 100).due("worth(0)", 10000).due("ofStone(2, 2)", 100).due("worth(2)", -20000);
+        x.due("with(0, 2, 2)", 100).due("with(0, 2, 0)", 100).due("falls(0, -1)", 1).due("ofStone(2, 2)", 100).due("worth(2)", -20000);
         x.due("span(0, 0)", 0).due("span(0, 1)", 0).due("span(1, 3)", 1).due("ofStone(2, 0)", 5);
         x.due("act(2, 0, 0)", 2).due("act(3, 0, 0)", 3);
         x.odds(2, "w", 50).odds(2, "s", 1).odds(2, "n", 1).odds(2, "m", 0).odds(2, "c", 0);
@@ -318,8 +319,19 @@ public final class BoundsOfStonesTest {
         for (int s = 0; s < 64; s++) {
             x.due("ofStone(" + s + ", 7)", 63 - s).due("ofStone(" + s + ", 8)", 63 - s);
         }
+        Told z = new Told("5").plain(0, 4).tell("line(1, 0, 1); line(3, 1, 1); line(3, 2, 1)").due("ofStone(0, 7)", 2).due("ofStone(2, 7)", 1);
+        z.due("ofStone(1, 7)", 1).due("ofStone(3, 7)", 0).due("ofStone(0, 8)", 2).due("ofStone(2, 8)", 1);
+        farWithoutDroppedLines();
         Told y = new Told("5").plain(0, 4).tell("line(3, 0, 1); line(3, 1, 1); line(2, 1, 1)");
         y.due("ofStone(0, 7)", 1).due("ofStone(0, 8)", 1).due("ofStone(1, 7)", 1).due("ofStone(1, 8)", 2);
         y.due("ofStone(2, 7)", 0).due("ofStone(2, 8)", 0).due("line(3, 2, 1)", 3).due("ofStone(1, 7)", 2).due("ofStone(1, 8)", 2);
+    }
+
+    /** A way by a DROPPED LINE is none, though that to which it leads stands on it still. */
+    private static void farWithoutDroppedLines() {
+        Told x = new Told("5").plain(4, 3).tell("stone(5, 1, 0); line(1, 0, 50); line(2, 1, 50); line(3, 2, 50); line(3, 0, 50); take(2, 1, 0)");
+        x.text(0, "1000", 1).due("ofStone(0, 7)", 3).due("ofStone(1, 7)", 2).due("ofStone(1, 8)", 2).due("months(1)", 1);
+        x.due("ofLine(2, 4)", 1).due("ofLine(3, 4)", 0).due("ofStone(0, 7)", 2).due("ofStone(1, 7)", 1).due("ofStone(1, 8)", 1);
+        x.due("ofStone(0, 8)", 3).due("ofStone(2, 7)", 0);
     }
 }

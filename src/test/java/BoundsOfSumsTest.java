@@ -21,10 +21,12 @@ public final class BoundsOfSumsTest {
         withIsVoid();
         fallsThatWereAbove();
         turnsBothWays();
+        turnsBesidesAllAsItIs();
         noneSuch();
         hangsOnOneToEight();
         hangsOnTheFirstEight();
         hangsOnTheLeastOfLikeOnes();
+        hangsOnTheFewest();
         hangsOnNone();
         Check.end();
     }
@@ -251,6 +253,16 @@ public final class BoundsOfSumsTest {
         x.due("turned(1, -1)", 1).due("turned(1, 0)", 3).refused("turned(1, 1)", -1);
         x.due("turned(2, -1)", 1).due("turned(2, 0)", 2).due("turned(3, -1)", 0).refused("turned(3, 0)", -1);
         x.tell("take(0, 1, 0)").due("says(2)", 0).due("turned(0, -1)", 0).refused("turned(0, 0)", -1).due("turned(1, -1)", 0);
+        // 0 in half: 2 says NO already, and with 1 both say YES
+        x.tell("take(0, 2, 0)").due("says(2)", 0).due("turned(0, -1)", 0).due("turned(1, -1)", 2).due("turned(1, 0)", 2).due("turned(1, 1)", 3);
+    }
+
+    /** "(besides all as it is)": what is TAKEN is TAKEN in thought, too, the first STONE and the last. */
+    private static void turnsBesidesAllAsItIs() {
+        Told x = new Told("14").tell("stone(1, 10, 5); stone(1, -10, 5); stone(1, 1, 5); stone(3, 0, 0)");
+        x.tell("line(3, 0, 50); line(3, 1, 50); line(3, 2, 50); take(0, 1, 0)").due("says(3)", 0).due("turned(2, -1)", 0);
+        x.due("turned(1, -1)", 1).due("falls(1, -1)", 1).due("falls(2, -1)", 1).tell("take(2, 1, 0)").due("falls(1, -1)", 2);
+        x.due("falls(1, 1)", 3).due("turned(1, -1)", 0).tell("restore(0)").due("says(3)", 1).due("turned(0, -1)", 1);
     }
 
     /** "how many (i -1), the i-th. BAD (also none such)." */
@@ -322,6 +334,15 @@ public final class BoundsOfSumsTest {
         x.due("says(6)", 0).due("hangs(6)", 2).due("hung(6)", 6).tell("take(1, 1, 0)");
         // -5 in all: without -5, or -8, it is 0 or more
         x.due("hangs(6)", 1).due("hung(6)", 4).tell("take(2, 2, 0)").due("hung(6)", 16);
+    }
+
+    /** "the fewest": one (4) comes ahead of two that are less as bits (3). */
+    private static void hangsOnTheFewest() {
+        Told x = new Told("15").tell("stone(1, -5, 1); stone(1, -5, 1); stone(1, -10, 1); stone(1, 10, 1); stone(3, 0, 0)");
+        for (int n = 0; n < 4; n++) {
+            x.tell("line(4, " + n + ", 50)");
+        }
+        x.due("says(4)", 0).due("hangs(4)", 1).due("hung(4)", 4).tell("take(2, 2, 0)").due("hangs(4)", 1).due("hung(4)", 1);
     }
 
     /** "NOT: none do": nothing to stand on, none that is not TAKEN, or none that turns it. */

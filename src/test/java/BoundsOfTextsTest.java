@@ -82,6 +82,7 @@ public final class BoundsOfTextsTest {
         oddsBy("7;" + "1;".repeat(58) + "12", 7);
         oddsBy("0?1;".repeat(29) + "0?99", 0);
         oddsBy("0?1;".repeat(29) + "1?99", 99);
+        oddsBy("0?1;".repeat(29) + "0?-1", 0);
         oddsBy("0?1;".repeat(29) + "9876", 1000);
         oddsBy("1" + "*9999".repeat(23) + "*000", 0);
         oddsBy("((((((" + "1+".repeat(53) + "01))))))", 54);
@@ -246,6 +247,7 @@ public final class BoundsOfTextsTest {
         Told x = new Told("21").tell("stone(5, 5, 0)");
         x.odds(0, "0", 0).odds(0, "0;7", 0).odds(0, "0?7", 0).odds(0, "1?7", 7).odds(0, "-1?7", 7).odds(0, "0?7;8", 8);
         x.odds(0, "1?7;8", 7).odds(0, "1?0;8", 0).odds(0, "0?7;0?8", 0).odds(0, "0?7;2?8;9", 8).odds(0, "6;1?7", 6);
+        x.odds(0, "1?2;3?4;5?6;7", 2).odds(0, "0?8", 0).odds(0, "0?8;0?9", 0).text(1, "1;2;3;4;5", 1).odds(0, "0?8", 0);
         x.odds(0, "h=5?1;h=5?2", 1).odds(0, "h=4?1;h=5?2", 2).odds(0, "9999?3;4", 3).odds(0, "1-1?3;4", 4);
     }
 
